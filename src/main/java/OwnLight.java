@@ -911,8 +911,6 @@ public final class OwnLight {
         boolean isOfKind(int k, int kind) {
             int own = kinds[k & LAMP_MASK];
             switch (kind) {
-                case LAMP:
-                    return true;
                 case CORNER:
                     return own == CORNER || own == BRIGHT;
                 case HOODED:
@@ -1004,11 +1002,12 @@ public final class OwnLight {
 
         int markOf(int k, int kind) {
             int shone = unshaded[k & LAMP_MASK];
+            int reach = reaches[k & LAMP_MASK];
             switch (kind) {
                 case CORNER:
                     return Integer.bitCount(shone) - Integer.bitCount(byLines(spotOf(k), ALL_WAYS, farOf(k)));
                 case HOODED:
-                    return Integer.bitCount(byLines(spotOf(k), ALL_WAYS, reaches[k & LAMP_MASK])) - Integer.bitCount(shone);
+                    return Integer.bitCount(byLines(spotOf(k), ALL_WAYS, reach)) - Integer.bitCount(shone);
                 case BRIGHT:
                     return Integer.bitCount(shone & lampCells & ~spotOf(k));
                 default:
@@ -1551,7 +1550,7 @@ public final class OwnLight {
             return fewest;
         }
 
-        /** Fading: where he has not left the light of the LAMP put out last. Bright: where the others' light alone holds. */
+        /** Fading: where he has not left the light of the LAMP put out last; bright: where only the others' counts. */
         private int stepsFrom(Town town, Lights lights, int burning, int last) {
             int own = lights.of(1 << last);
             int others = lights.of(burning);
