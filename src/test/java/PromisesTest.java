@@ -766,6 +766,13 @@ public final class PromisesTest {
         due(x.two(3), BAD);
         due(x.two(6), BAD);
         due(x.two(-1), BAD);
+        // of as few steps: the fewest lamps for the first one, then the least bits
+        x = town("g51..D..o301o401o001");
+        due(x, x.two(2), 4, 4);
+        x = town("g51..D..o301o101");
+        due(x, x.two(2), 2, 1);
+        x = town("g61...D..o501o401o001o201");
+        due(x, x.two(3), 5, 3);
         // where the first one's lamp shines the second can't stand, but where there is none left to light he may
         x = town("g51D....l102");
         due(x, x.two(3), 1, 1);
