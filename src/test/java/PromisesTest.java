@@ -1,9 +1,5 @@
 /** For each promise: ordinary inputs, the edges that the document names, wrong inputs. */
-public final class PromisesTest {
-    private static final int BAD = -1, FULL = -2, FINDING = -3, STATE = -4, NONE = -9;
-    private static final int LEAST = Integer.MIN_VALUE, MOST = Integer.MAX_VALUE;
-    private static final int UP = 0, RIGHT = 1, DOWN = 2, LEFT = 3, LIGHT = 4;
-
+public final class PromisesTest extends Checks {
     /** One LAMP of each KIND, a wall at CELL 8. */
     private static final String KINDS = "g63 D..... ..#... ...... l202 f221 c112 h412 o523 b001";
     /** Two LAMPS that don't bar one another. */
@@ -15,80 +11,11 @@ public final class PromisesTest {
     private static final String ALONE = "g51 D.... l201";
     private static final String EMPTY = "g32 .D. #..";
 
-    private static int wrong = 0;
-    private static int promise = 0;
-    private static int number = 0;
-
-    private static void promise(int n) {
-        promise = n;
-        number = 0;
-    }
-
-    private static void due(long got, long want) {
-        number++;
-        if (got != want) {
-            wrong++;
-            System.out.println("promise " + promise + ", answer " + number + ": " + got + ", due is " + want);
-        }
-    }
-
-    /** An answer with what is told beside it. */
-    private static void due(OwnLight x, long got, long want, long aside) {
-        due(got, want);
-        due(x.asked(), aside);
-    }
-
     /** A refusal by a FINDING, which changes nothing else. */
     private static void found(OwnLight x, int before, int got, int finding) {
         due(got, FINDING);
         due(x.finding(), finding);
         due(x.findings(finding), before + 1);
-    }
-
-    private static OwnLight withText(OwnLight x, int t, String s) {
-        x.text(t, s.length());
-        for (int i = 0; i < s.length(); i++) {
-            x.put(t, i, s.charAt(i));
-        }
-        return x;
-    }
-
-    private static OwnLight town(String s) {
-        OwnLight x = withText(new OwnLight(), 0, s);
-        if (x.town(0) < 0) {
-            throw new IllegalArgumentException(s);
-        }
-        return x;
-    }
-
-    private static void row(OwnLight x, int r, int... items) {
-        x.row(r, items.length);
-        for (int i = 0; i < items.length; i++) {
-            x.lay(r, i, items[i]);
-        }
-    }
-
-    private static void dueRow(OwnLight x, int r, int... items) {
-        for (int i = 0; i < items.length; i++) {
-            due(x, x.at(r, i), 1, items[i]);
-        }
-        due(x.at(r, items.length), FINDING);
-    }
-
-    private static int acts(OwnLight x, int... whats) {
-        int last = 0;
-        for (int what : whats) {
-            last = x.act(what);
-        }
-        return last;
-    }
-
-    private static long fold(long... values) {
-        long h = 17;
-        for (long v : values) {
-            h = 31 * h + v;
-        }
-        return h;
     }
 
     private static int faultOf(String s) {
@@ -1058,9 +985,6 @@ public final class PromisesTest {
         lots();
         told();
         digests();
-        System.out.println(wrong == 0 ? "all promises hold" : wrong + " answers are not as due");
-        if (wrong != 0) {
-            System.exit(1);
-        }
+        end();
     }
 }
