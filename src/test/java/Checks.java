@@ -1,6 +1,6 @@
 import java.util.function.IntSupplier;
 
-/** What the tests by sentence share: each runs by itself, and is told by its sentence if an answer isn't the one due. */
+/** What the tests share: each sentence's runs by itself, and is told by its sentence if an answer isn't as due. */
 abstract class Checks {
     static final int BAD = -1, FULL = -2, FINDING = -3, STATE = -4, SPENT = -6, NONE = -9;
     static final int NOTHING = 1, BEYOND = 2, UNLIKE = 3, NOUGHT = 4, SIZE = 5;
