@@ -168,6 +168,9 @@ public final class FaultsTest extends Checks {
                 due("g21D.l" + figure + "01", 6);
             }
             due("g61D.....l601", 10);
+            due("g24D.......l201", 12);
+            due("g24D.......l301", 12);
+            due("g34D...........l311", 16);
         });
         test(0, "a figure y of a CELL that may not be: there is none", () -> {
             due("g24D.......l131", NONE);
